@@ -325,7 +325,8 @@ public final class WeatherHand {
         if (here.papers > here.hands) {
             return NONE;
         }
-        finding.search(here, archive);
+        finding.compare(here, archive);
+        finding.search(here.papers, here.hands);
         return p == NONE ? finding.most : finding.handOf(p, here.papers);
     }
 
@@ -336,9 +337,10 @@ public final class WeatherHand {
         if (what < 0 || what > 1) {
             return OUTSIDE;
         }
+        int length = archive.countOf(p);
         int passes = 0;
         int caught = 0;
-        for (int l = 0; l < archive.countOf(p); l++) {
+        for (int l = 0; l < length; l++) {
             if (archive.isForged(p, l)) {
                 if (archive.looksAsBy(here, p, l, archive.writerOf(p, l))) {
                     passes++;
@@ -779,12 +781,8 @@ public final class WeatherHand {
             seedNow = other.seedNow;
         }
 
-        private static boolean isPlaceOfPaper(int p) {
-            return p >= 0 && p < PAPERS_MOST;
-        }
-
         int countOf(int p) {
-            return isPlaceOfPaper(p) ? counts[p] : 0;
+            return p >= 0 && p < PAPERS_MOST ? counts[p] : 0;
         }
 
         int countAll() {
@@ -796,8 +794,9 @@ public final class WeatherHand {
         }
 
         int countForged(int p) {
+            int length = countOf(p);
             int many = 0;
-            for (int l = 0; l < countOf(p); l++) {
+            for (int l = 0; l < length; l++) {
                 if (isForged(p, l)) {
                     many++;
                 }
@@ -810,7 +809,7 @@ public final class WeatherHand {
         }
 
         boolean hasLetter(int p, int l) {
-            return l >= 0 && l < PLACES && l < countOf(p);
+            return p >= 0 && p < PAPERS_MOST && l >= 0 && l < PLACES && l < counts[p];
         }
 
         int hourOf(int p, int l) {
@@ -830,8 +829,11 @@ public final class WeatherHand {
         }
 
         int lookOf(Valley valley, int p, int l) {
-            int hour = isForged(p, l) ? airOf(p, l) : hourOf(p, l);
-            return valley.lookAt(writerOf(p, l), hour);
+            if (!hasLetter(p, l)) {
+                return NONE;
+            }
+            int slot = p * PLACES + l;
+            return valley.lookAt(writers[slot], airs[slot] == NONE ? hours[slot] : airs[slot]);
         }
 
         /** Whether a letter looks as the hand would have made it at the hour told. */
@@ -839,8 +841,17 @@ public final class WeatherHand {
             return lookOf(valley, p, l) == valley.lookAt(h, hourOf(p, l));
         }
 
+        int countAsBy(Valley valley, int p, int h) {
+            int length = countOf(p);
+            int many = 0;
+            for (int l = 0; l < length; l++) {
+                many += looksAsBy(valley, p, l, h) ? 1 : 0;
+            }
+            return many;
+        }
+
         void put(int p, int h, int t, int air) {
-            if (!isPlaceOfPaper(p) || isFull(p)) {
+            if (p < 0 || p >= PAPERS_MOST || counts[p] < 0 || counts[p] >= PLACES) {
                 return;
             }
             int slot = p * PLACES + counts[p];
@@ -866,8 +877,9 @@ public final class WeatherHand {
 
         /** How many letters from one on the hand would have made one an hour from t on. */
         int rowFrom(Valley valley, int p, int from, int h, int t) {
+            int length = countOf(p);
             int many = 0;
-            while (from + many < countOf(p) && t + many < HOURS
+            while (from + many < length && t + many < HOURS
                     && lookOf(valley, p, from + many) == valley.lookAt(h, t + many)) {
                 many++;
             }
@@ -884,9 +896,10 @@ public final class WeatherHand {
 
         /** Each part of a row is a row too, so taking the longest each time takes the fewest. */
         int fewestRows(Valley valley, int p, int h) {
+            int length = countOf(p);
             int rows = 0;
             int done = 0;
-            for (int step = 0; step < PLACES && done < countOf(p); step++) {
+            for (int step = 0; step < PLACES && done < length; step++) {
                 int longest = longestRow(valley, p, done, h);
                 if (longest < 1) {
                     return NONE;
@@ -899,7 +912,8 @@ public final class WeatherHand {
 
         boolean fitsRain(Valley valley, int day, int rainNumber) {
             for (int p = 0; p < PAPERS_MOST; p++) {
-                for (int l = 0; l < countOf(p); l++) {
+                int length = countOf(p);
+                for (int l = 0; l < length; l++) {
                     int t = hourOf(p, l);
                     if (t / DAY_HOURS == day && !isForged(p, l)
                             && lookOf(valley, p, l) != valley.makeLook(writerOf(p, l), t, rainNumber)) {
@@ -1010,6 +1024,7 @@ public final class WeatherHand {
 
         final int[] writers = new int[HANDS_MOST * HOURS];
         final int[] starts = new int[HANDS_MOST * HOURS];
+        final int[] kinds = new int[HANDS_MOST * HOURS];
         final int[] alike = new int[KINDS_OF_LOOK];
         int count;
 
@@ -1028,7 +1043,8 @@ public final class WeatherHand {
         }
 
         private static boolean fits(Valley valley, Archive archive, int p, int places, int h, int t) {
-            for (int l = 0; l < archive.countOf(p); l++) {
+            int length = archive.countOf(p);
+            for (int l = 0; l < length; l++) {
                 if ((places >> l & 1) == 1 && archive.lookOf(valley, p, l) != valley.lookAt(h, t + l)) {
                     return false;
                 }
@@ -1052,13 +1068,14 @@ public final class WeatherHand {
         private int greatestPart(Valley valley, int l) {
             // only the counters in use are set back: far fewer than there are kinds
             for (int b = 0; b < count; b++) {
-                alike[kindOfLook(valley.lookAt(writers[b], starts[b] + l))] = 0;
+                kinds[b] = kindOfLook(valley.lookAt(writers[b], starts[b] + l));
+                alike[kinds[b]] = 0;
             }
             int greatest = 0;
             for (int b = 0; b < count; b++) {
-                int kind = kindOfLook(valley.lookAt(writers[b], starts[b] + l));
-                alike[kind]++;
-                greatest = Math.max(greatest, alike[kind]);
+                int many = alike[kinds[b]] + 1;
+                alike[kinds[b]] = many;
+                greatest = Math.max(greatest, many);
             }
             return greatest;
         }
@@ -1076,13 +1093,21 @@ public final class WeatherHand {
         int most;
         int bestCode;
 
+        void compare(Valley valley, Archive archive) {
+            for (int p = 0; p < valley.papers; p++) {
+                for (int h = 0; h < valley.hands; h++) {
+                    likenesses[p * HANDS_MOST + h] = archive.countAsBy(valley, p, h);
+                }
+            }
+        }
+
         /** A code has two bits a paper, the first paper's highest, so that codes come in the order asked for. */
-        void search(Valley valley, Archive archive) {
-            compare(valley, archive);
+        void search(int papers, int hands) {
             most = NONE;
             bestCode = 0;
-            for (int code = 0; code < 1 << 2 * valley.papers; code++) {
-                int many = likenessOf(code, valley.papers, valley.hands);
+            int codes = 1 << 2 * Math.min(PAPERS_MOST, papers);
+            for (int code = 0; code < codes; code++) {
+                int many = likenessOf(code, papers, hands);
                 if (many > most) {
                     most = many;
                     bestCode = code;
@@ -1096,18 +1121,6 @@ public final class WeatherHand {
 
         private static int handIn(int code, int p, int papers) {
             return code >> 2 * (papers - 1 - p) & 3;
-        }
-
-        private void compare(Valley valley, Archive archive) {
-            for (int p = 0; p < valley.papers; p++) {
-                for (int h = 0; h < valley.hands; h++) {
-                    int many = 0;
-                    for (int l = 0; l < archive.countOf(p); l++) {
-                        many += archive.looksAsBy(valley, p, l, h) ? 1 : 0;
-                    }
-                    likenesses[p * HANDS_MOST + h] = many;
-                }
-            }
         }
 
         /** NONE if a hand is not there or has two papers. */
