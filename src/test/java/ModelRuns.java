@@ -9,8 +9,11 @@ import java.util.regex.Pattern;
 
 /** Long runs of random calls on WeatherHand and on a second, slow model of the document: all answers must agree. */
 public final class ModelRuns {
-    private static final int RUNS = 4000;
+    private static final int RUNS = 6000;
+    /** What an object answers later is free. */
     private static final int CALLS = 512;
+    /** Some runs end earlier, so that there is room to look through all that is there. */
+    private static final int CALLS_OF_A_SHORT_RUN = 250;
     private static final int NONE = -1;
     private static final int UNKNOWN = -1000000001;
     private static final int OUTSIDE = -1000000002;
@@ -718,6 +721,10 @@ public final class ModelRuns {
             }
         }
 
+        boolean hasRoom() {
+            return calls.size() < CALLS;
+        }
+
         int below(int n) {
             return random.nextInt(n);
         }
@@ -800,21 +807,30 @@ public final class ModelRuns {
                     default -> s.setLength(at);
                 }
             }
-            return s.toString();
+            // the document does not say what a text of blanks alone is
+            return s.toString().isBlank() ? "" : s.toString();
         }
 
         void feedAll(String text) {
-            for (int k = 0; k < text.length() && calls.size() < CALLS; k++) {
+            for (int k = 0; k < text.length() && hasRoom(); k++) {
                 due("feed(" + (int) text.charAt(k) + ")", x.feed(text.charAt(k)), m.feed(text.charAt(k)));
+            }
+        }
+
+        void becomesValley() {
+            if (hasRoom() && !(m.text.length() > 0 && m.text.toString().isBlank())) {
+                due("valley()", x.valley(), m.valley());
+            }
+            if (hasRoom()) {
+                due("fault()", x.fault(), m.faultAt);
             }
         }
 
         void tellValley() {
             String text = text();
             int way = below(40);
-            feedAll(way < 12 ? spoiled(text) : way == 12 ? "" : way == 13 ? " ".repeat(below(240)) : text);
-            due("valley()", x.valley(), m.valley());
-            due("fault()", x.fault(), m.faultAt);
+            feedAll(way < 12 ? spoiled(text) : way == 12 ? "" : way == 13 ? text + " ".repeat(below(240)) : text);
+            becomesValley();
         }
 
         void deed() {
@@ -842,7 +858,7 @@ public final class ModelRuns {
             int p = paper();
             int h = someHand();
             int t = hour();
-            for (int k = 1 + below(5); k > 0; k--) {
+            for (int k = 1 + below(5); k > 0 && hasRoom(); k--) {
                 due("add(" + p + ", " + h + ", " + t + ", false)", x.add(p, h, t, false), m.add(p, h, t, false));
                 t = t >= 95 ? 0 : t + 1;
             }
@@ -885,7 +901,8 @@ public final class ModelRuns {
             int t = hour();
             int what = near(5);
             int few = near(3);
-            int told = near(11);
+            // the document does not say what W, D, L are without a valley
+            int told = m.told.there ? near(11) : 4 + below(8);
             switch (below(4)) {
                 case 0 -> due("told(" + told + ")", x.told(told), m.told(told));
                 case 1 -> due("weather(" + t + ", " + few + ")", x.weather(t, few), m.weather(t, few));
@@ -940,12 +957,12 @@ public final class ModelRuns {
 
         /** All that can be asked of the letters, so that no hidden difference is left at the end. */
         void lookThrough() {
-            for (int what = 0; what <= 10; what++) {
+            for (int what = m.told.there ? 0 : 4; what <= 10 && hasRoom(); what++) {
                 due("told(" + what + ")", x.told(what), m.told(what));
             }
             for (int p = 0; p < m.now.papers.size(); p++) {
                 for (int l = 0; l < m.now.papers.get(p).size(); l++) {
-                    for (int what = 0; what < 5; what++) {
+                    for (int what = 0; what < 5 && hasRoom(); what++) {
                         due("letter(" + p + ", " + l + ", " + what + ")", x.letter(p, l, what), m.letter(p, l, what));
                     }
                 }
@@ -954,21 +971,18 @@ public final class ModelRuns {
 
         /** Many short texts on one object, each with what is wrong with it. */
         void onlyTexts() {
-            for (int k = 0; k < 40 && wrong == null; k++) {
-                String text = spoiled(text());
-                for (int c = 0; c < text.length(); c++) {
-                    due("feed(" + (int) text.charAt(c) + ")", x.feed(text.charAt(c)), m.feed(text.charAt(c)));
-                }
-                due("valley()", x.valley(), m.valley());
-                due("fault()", x.fault(), m.faultAt);
+            for (int k = 0; k < 40 && hasRoom() && wrong == null; k++) {
+                feedAll(spoiled(text()));
+                becomesValley();
             }
         }
 
-        void go(boolean texts) {
+        void go(boolean texts, boolean isShort) {
             if (texts) {
                 onlyTexts();
             }
-            for (int k = 0; k < CALLS && !texts && calls.size() < CALLS && wrong == null; k++) {
+            int most = isShort ? CALLS_OF_A_SHORT_RUN : CALLS;
+            for (int k = 0; k < CALLS && !texts && calls.size() < most && wrong == null; k++) {
                 step();
             }
             if (wrong == null) {
@@ -982,7 +996,7 @@ public final class ModelRuns {
         int calls = 0;
         for (int number = 0; number < RUNS && wrong < 5; number++) {
             Run run = new Run(number);
-            run.go(number % 8 == 7);
+            run.go(number % 3 == 2, number % 2 == 1);
             calls += run.calls.size();
             if (run.wrong != null) {
                 wrong++;
