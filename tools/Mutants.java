@@ -69,6 +69,7 @@ public final class Mutants {
         }
         Set<String> idle = new TreeSet<>(namesOfTests(tests));
         int killed = 0;
+        int endless = 0;
         int none = 0;
         Map<Integer, List<Outcome>> left = new TreeMap<>();
         for (Future<Outcome> f : waiting) {
@@ -76,7 +77,9 @@ public final class Mutants {
             idle.removeAll(o.seenBy());
             if (!o.compiled()) {
                 none++;
-            } else if (o.seenBy().isEmpty() && !o.slow()) {
+            } else if (o.seenBy().isEmpty() && o.slow()) {
+                endless++;
+            } else if (o.seenBy().isEmpty()) {
                 left.computeIfAbsent(o.mutant().line(), k -> new ArrayList<>()).add(o);
             } else {
                 killed++;
@@ -86,7 +89,8 @@ public final class Mutants {
         left.values().forEach(row -> row.forEach(o -> out.println(
                 o.mutant().line() + ": " + o.mutant().was().strip() + "   ->   " + o.mutant().is().strip())));
         int survived = left.values().stream().mapToInt(List::size).sum();
-        out.println(mutants.size() + " breaks: " + killed + " seen, " + survived + " not seen, " + none + " do not compile");
+        out.println(mutants.size() + " breaks: " + killed + " seen, " + endless + " did not end, "
+                + survived + " not seen, " + none + " do not compile");
         idle.forEach(name -> out.println("saw no break: " + name));
         System.exit(0);
     }

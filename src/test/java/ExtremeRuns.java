@@ -30,6 +30,7 @@ public final class ExtremeRuns {
     }
 
     public static void main(String[] args) throws ReflectiveOperationException {
+        Patience.begin();
         Method[] face = WeatherHand.class.getMethods();
         Arrays.sort(face, Comparator.comparing(Method::getName));
         for (int state = 0; state < 4; state++) {

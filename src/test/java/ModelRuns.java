@@ -992,6 +992,7 @@ public final class ModelRuns {
     }
 
     public static void main(String[] args) {
+        Patience.begin();
         int wrong = 0;
         int calls = 0;
         for (int number = 0; number < RUNS && wrong < 5; number++) {

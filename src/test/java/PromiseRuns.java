@@ -49,6 +49,7 @@ public final class PromiseRuns {
     }
 
     public static void main(String[] args) {
+        Patience.begin();
         newObject();
         feed();
         valley();

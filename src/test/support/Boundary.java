@@ -36,6 +36,7 @@ abstract class Boundary {
     private static final List<String> wrong = new ArrayList<>();
 
     static void run(Class<?> tests) {
+        Patience.begin();
         Method[] methods = tests.getDeclaredMethods();
         Arrays.sort(methods, Comparator.comparing(Method::getName));
         int ran = 0;
