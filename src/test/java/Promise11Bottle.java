@@ -78,4 +78,18 @@ public final class Promise11Bottle extends Boundary {
         x.undo(1);
         due("told(7)", x.told(7), NONE);
     }
+
+    static void promise11_itIsADeedWhateverWasInIt() {
+        WeatherHand x = of(VALLEY);
+        x.bottle(NONE);
+        due("told(10) behind an empty one let out", x.told(10), 1);
+        x.bottle(8);
+        x.bottle(8);
+        due("told(10) behind the same hour again", x.told(10), 3);
+        x.undo(1);
+        due("told(7)", x.told(7), 8);
+        x.undo(1);
+        due("told(7)", x.told(7), NONE);
+        due("told(10)", x.told(10), 1);
+    }
 }

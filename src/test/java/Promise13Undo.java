@@ -248,4 +248,15 @@ public final class Promise13Undo extends Boundary {
         due("undo(20)", x.undo(20), 6);
         due("told(7)", x.told(7), 5);
     }
+
+    static void promise13_bottledWithoutAConditionPushesOlderDeedsOut() {
+        WeatherHand x = of(VALLEY);
+        x.add(0, 0, 0, false);
+        for (int k = 0; k < 30; k++) {
+            x.bottle(NONE);
+        }
+        due("told(10)", x.told(10), 30);
+        due("undo(30)", x.undo(30), 7);
+        due("undo(1)", x.undo(1), NOT);
+    }
 }
