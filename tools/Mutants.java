@@ -60,7 +60,7 @@ public final class Mutants {
         Map<String, byte[]> tests = compile(sourcesOfTests());
         String source = Files.readString(CLASS);
         List<Mutant> mutants = mutantsOf(source);
-        ExecutorService pool = Executors.newFixedThreadPool(Runtime.getRuntime().availableProcessors());
+        ExecutorService pool = Executors.newFixedThreadPool(Runtime.getRuntime().availableProcessors(), Mutants::daemon);
         List<Future<Outcome>> waiting = new ArrayList<>();
         PrintStream out = System.out;
         System.setOut(new PrintStream(OutputStream.nullOutputStream()));
@@ -93,6 +93,13 @@ public final class Mutants {
                 + survived + " not seen, " + none + " do not compile");
         idle.forEach(name -> out.println("saw no break: " + name));
         System.exit(0);
+    }
+
+    /** So that the machine ends with main, even if main ends by a fault of its own. */
+    private static Thread daemon(Runnable work) {
+        Thread t = new Thread(work);
+        t.setDaemon(true);
+        return t;
     }
 
     private static List<Mutant> mutantsOf(String source) {
@@ -152,7 +159,14 @@ public final class Mutants {
         if (slow) {
             stop(t);
         }
-        return new Outcome(m, true, slow, new TreeSet<>(seenBy));
+        return new Outcome(m, true, slow, copyOf(seenBy));
+    }
+
+    /** A thread that is being stopped may still add to the set, so it is held while it is copied. */
+    private static Set<String> copyOf(Set<String> seenBy) {
+        synchronized (seenBy) {
+            return new TreeSet<>(seenBy);
+        }
     }
 
     @SuppressWarnings({"deprecation", "removal"})
